@@ -221,6 +221,37 @@ public final class PromiseTest {
         d.is("goes of a refused one", x.goes(1), 3);
         ring(fresh("10: steps in rings"));
         pairs(fresh("6: keys of two"));
+        cleared(fresh("6: both cols of a ref are cleared, reset"));
+    }
+
+    static void cleared(FollowingRefs x) {
+        d.schema("table u a b;table v c e;table w f g;table z h;key u b a;key z h;ref v e c to u b a clear reset;"
+                + "ref w g f to u b a reset clear;default v e 4;default w f 5;default w g 6;default v c 3;", 12);
+        d.book(1, "insert u 1 2;insert u 5 6;insert u 3 4;insert v 1 2;insert w 1 2;insert v 5 none;insert w none 6;", -1);
+        d.is("refers(3, 0)", x.refers(3, 0), 0);
+        d.is("refers(4, 1)", x.refers(4, 1), 0);
+        d.is("refers(5, 0)", x.refers(5, 0), -1);
+        d.is("referred(0)", x.referred(0), 2);
+        d.is("referred(1)", x.referred(1), 0);
+        d.does("delete u if a = 1", 3);
+        d.cells(3, -1, -1);
+        d.cells(4, 5, 6);
+        d.cells(5, 5, -1);
+        d.does("set v c 5 e 6 if c = none", 1);
+        d.does("set u b 8 if a = 5", 3);
+        d.cells(1, 5, 8);
+        d.cells(3, 3, 4);
+        d.cells(4, -1, -1);
+        d.cells(6, -1, 6);
+        // A KEY of two is alike in both: a like VALUE in one alone, none in one, is none.
+        d.does("insert u 3 5", 1);
+        d.does("insert u 4 4", 1);
+        d.does("insert u 4 4", -1002);
+        d.does("insert u none 4", -1001);
+        d.is("violated(1, 0)", x.violated(1, 0), -1);
+        d.does("insert u 4 none", -1001);
+        d.violated(0, 1, 1, 9);
+        d.is("violated(1, 0)", x.violated(1, 0), -1);
     }
 
     static void ring(FollowingRefs x) {
@@ -266,6 +297,8 @@ public final class PromiseTest {
         FollowingRefs x = fresh("6: 5, two values of one col");
         d.schema("table t k r;table u k;key t k;key u k;ref t r to t k clear follow;ref t k to u k refuse follow;", 6);
         d.book(1, "insert u 1;insert u 2;insert t 1 none;insert t 2 1;", -1);
+        d.does("insert u 2", -1002);
+        d.violated(0, 2, 1, 4);
         // One of the two is what it has: unlike all the same.
         d.would("set t k 2 r 1 if k > 0", -1005);
         d.judged(5, 2, 0, 0);
@@ -541,6 +574,7 @@ public final class PromiseTest {
         d.is("refers(4, 3)", x.refers(4, 3), -1);
         d.is("refers(4, -1)", x.refers(4, -1), -1);
         d.is("refers(3, 0)", x.refers(3, 0), -1);
+        d.is("refers(-1, 0)", x.refers(-1, 0), -1);
         d.is("referred(1)", x.referred(1), 4);
         d.is("referred(0)", x.referred(0), 1);
         d.is("referred(5)", x.referred(5), 0);

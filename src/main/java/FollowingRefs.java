@@ -715,12 +715,16 @@ public final class FollowingRefs {
             faultPlace = 0;
             tokenCount = 0;
             int edge = Math.min(length, most);
-            for (int i = 0; i < edge; i++) {
-                int b = byteIn(i);
+            int from = 0;
+            for (int i = 0; i < MOST_TAPE && from < edge; i++) {
+                int b = byteIn(from);
                 if (isLetter(b) || isDigit(b)) {
-                    i = keepRun(i) - 1;
-                } else if (!isBlank(b)) {
-                    keep(isSign(b) ? b : STRANGE, i, 0);
+                    from = keepRun(from);
+                } else {
+                    if (!isBlank(b)) {
+                        keep(isSign(b) ? b : STRANGE, from, 0);
+                    }
+                    from++;
                 }
             }
             keep(length > most ? CUT : END, edge, 0);
@@ -735,7 +739,8 @@ public final class FollowingRefs {
             long word = 0;
             int number = 0;
             int i = from;
-            for (int b = byteIn(i); i < length && (isLetter(b) || isDigit(b)); b = byteIn(i)) {
+            while (i < length && (isLetter(byteIn(i)) || isDigit(byteIn(i)))) {
+                int b = byteIn(i);
                 if (isLetter(b)) {
                     letters++;
                     word = word * 32 + (b - 'a' + 1);
@@ -752,7 +757,7 @@ public final class FollowingRefs {
             } else {
                 keep(STRANGE, from, 0);
             }
-            return Math.max(i, from + 1);
+            return i;
         }
 
         void keep(int sort, int at, long what) {
@@ -1122,6 +1127,9 @@ public final class FollowingRefs {
         final Text text;
         final Schema draft = new Schema();
         int lineCount;
+        int owner;
+        int first;
+        int second;
 
         SchemaReader(Text tape) {
             text = tape;
@@ -1201,54 +1209,48 @@ public final class FollowingRefs {
             return true;
         }
 
+        /** A TABLE and one COL of it, or two that are unlike. */
+        boolean takeCols() {
+            owner = text.takeTable(draft);
+            first = owner == NONE ? NONE : text.takeCol(draft, owner, NONE);
+            second = NONE;
+            if (first != NONE && text.kind == NAME) {
+                second = text.takeCol(draft, owner, first);
+                return second != NONE;
+            }
+            return first != NONE;
+        }
+
         boolean readKey() {
             text.step();
-            int t = text.takeTable(draft);
-            int c = t == NONE ? NONE : text.takeCol(draft, t, NONE);
-            if (c == NONE) {
+            if (!takeCols()) {
                 return false;
             }
-            int second = NONE;
-            if (text.kind == NAME) {
-                second = text.takeCol(draft, t, c);
-                if (second == NONE) {
-                    return false;
-                }
-            }
-            draft.addKey(t, c, second);
+            draft.addKey(owner, first, second);
             return true;
         }
 
         boolean readRef() {
             text.step();
-            int base = draft.refs * REF_PARTS;
-            int t = text.takeTable(draft);
-            int c = t == NONE ? NONE : text.takeCol(draft, t, NONE);
-            if (c == NONE) {
+            if (!takeCols() || !text.take(TO)) {
                 return false;
             }
-            int second = NONE;
-            if (text.kind == NAME) {
-                second = text.takeCol(draft, t, c);
-                if (second == NONE) {
-                    return false;
-                }
-            }
-            int other = text.take(TO) ? text.takeTable(draft) : NONE;
+            int other = text.takeTable(draft);
             int key = other == NONE ? NONE : takeKey(other, second != NONE);
             int gone = key == NONE ? NONE : takeOn();
             int changed = gone == NONE ? NONE : takeOn();
             if (changed == NONE) {
                 return false;
             }
-            put(draft.refParts, base + REF_TABLE, t);
+            int base = draft.refs * REF_PARTS;
+            put(draft.refParts, base + REF_TABLE, owner);
             put(draft.refParts, base + REF_OTHER, other);
             put(draft.refParts, base + REF_KEY, key);
             put(draft.refParts, base + REF_GONE, gone);
             put(draft.refParts, base + REF_CHANGED, changed);
             put(draft.refParts, base + REF_FULL, text.option(FULL) ? 1 : 0);
             put(draft.refParts, base + REF_LATE, text.option(LATE) ? 1 : 0);
-            put(draft.refParts, base + REF_COL, c);
+            put(draft.refParts, base + REF_COL, first);
             put(draft.refParts, base + REF_SECOND, second);
             draft.refs++;
             return true;
@@ -1260,11 +1262,11 @@ public final class FollowingRefs {
             if (c == NONE) {
                 return NONE;
             }
-            int second = two ? text.colHere(draft, t, c) : NONE;
-            if (two && second == NONE) {
+            int d = two ? text.colHere(draft, t, c) : NONE;
+            if (two && d == NONE) {
                 return NONE;
             }
-            int key = draft.keyAlike(t, c, second);
+            int key = draft.keyAlike(t, c, d);
             if (key == NONE) {
                 text.fail(3);
                 return NONE;
@@ -2152,7 +2154,7 @@ public final class FollowingRefs {
             return readCond(1) && (text.kind == END || text.fail(1));
         }
 
-        boolean readCond(int within) {
+        private boolean readCond(int within) {
             boolean read = readAll(within);
             for (int i = 0; i < MOST_SENTENCE && read && text.option(OR); i++) {
                 read = readAll(within);
@@ -2161,7 +2163,7 @@ public final class FollowingRefs {
             return read;
         }
 
-        boolean readAll(int within) {
+        private boolean readAll(int within) {
             boolean read = readOne(within);
             for (int i = 0; i < MOST_SENTENCE && read && text.option(AND); i++) {
                 read = readOne(within);
@@ -2170,7 +2172,7 @@ public final class FollowingRefs {
             return read;
         }
 
-        boolean readOne(int within) {
+        private boolean readOne(int within) {
             int kind = text.kind;
             if (!startsOne(kind)) {
                 return text.fail(1);
