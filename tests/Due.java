@@ -96,6 +96,43 @@ final class Due {
         is("fault of sentence " + text, x.fault(), kind);
     }
 
+    /** A text with ^ ahead of the TOKEN of its FAULT (or at its end), and the kind of that. */
+    void badSchema(int kind, String marked) {
+        schema(marked.replace("^", ""), marked.indexOf('^'), kind);
+    }
+
+    void badStatement(int kind, String marked) {
+        String text = marked.replace("^", "");
+        does(text, marked.indexOf('^'), kind);
+        would(text, -2 - marked.indexOf('^'));
+        is("fault of would " + text, x.fault(), kind);
+    }
+
+    void badBook(int kind, String marked) {
+        book(marked.replace("^", ""), marked.indexOf('^'), kind);
+    }
+
+    void badSentence(int kind, String marked) {
+        sentence(marked.replace("^", ""), marked.indexOf('^'), kind);
+    }
+
+    /** Inserts ROWS of the first TABLE, of one COL that has 7, by BOOKS. */
+    void fill(int rows) {
+        for (int left = rows; left > 0; left -= 30) {
+            book(1, "insert t 7;".repeat(Math.min(left, 30)), -1);
+        }
+    }
+
+    /** A text with blanks behind it, so that it has so many bytes. */
+    static String padded(String text, int bytes) {
+        return text + " ".repeat(bytes - text.length());
+    }
+
+    /** A text with blanks ahead of its last part, so that this begins at a place. */
+    static String placed(String text, int place, String last) {
+        return padded(text, place) + last;
+    }
+
     void said(int... due) {
         is("said(-1)", x.said(-1), due.length);
         for (int k = 0; k < due.length; k++) {

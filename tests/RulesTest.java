@@ -12,8 +12,17 @@ import java.util.Set;
 import java.util.regex.Matcher;
 import java.util.regex.Pattern;
 
-/** What can be seen of the rules of LANGUAGE.md in the source and by reflection. */
+/** What can be seen of the rules of LANGUAGE.md in the source and by reflection, and the document's public face. */
 public final class RulesTest {
+    // "The public face" of the document, sorted, without the names of the parameters.
+    static final String FACE = "boolean end(int)|boolean image(int)|boolean restore(int)|int back()|int begin()|int book(int)"
+            + "|int byteAt(int)|int cell(int,int) throws java.util.NoSuchElementException"
+            + "|int col(int,int,int) throws java.util.NoSuchElementException|int commit()|int count(int)|int drawn(int,int)|int fault()"
+            + "|int feed(int,int,int,int,int)|int goes(int)|int judged(int)|int mean(int,int,int) throws java.util.NoSuchElementException"
+            + "|int now(int)|int order()|int orderAt(int)|int ref(int,int)|int referred(int)|int refers(int,int)|int row(int,int)"
+            + "|int rows(int)|int said(int)|int schema()|int sentence()|int statement()|int steps(int)|int table(int,int)"
+            + "|int tableOf(int)|int tag(int)|int told(int)|int undo()|int violated(int,int)|int would()";
+
     static int wrong;
 
     static void must(boolean so, String what) {
@@ -45,7 +54,18 @@ public final class RulesTest {
                 names.add(m.getName());
             }
         }
-        must(names.size() == 37, "1: 37 methods, not " + names.size());
+        List<String> members = new ArrayList<>();
+        for (Method m : c.getDeclaredMethods()) {
+            if (Modifier.isPublic(m.getModifiers())) {
+                members.add(m.toGenericString().replace("public ", "").replace("FollowingRefs.", ""));
+            }
+        }
+        members.sort(null);
+        must(String.join("|", members).equals(FACE), "the public face: " + members);
+        must(c.getDeclaredConstructors().length == 1 && c.getConstructors().length == 1
+                && c.getConstructors()[0].getParameterCount() == 0, "the public face: FollowingRefs()");
+        must(c.getFields().length == 1 && c.getFields()[0].toGenericString().equals(
+                "public static final int FollowingRefs.NONE"), "the public face: NONE");
         List<Class<?>> all = new ArrayList<>(List.of(c.getDeclaredClasses()));
         must(all.size() <= 12, "11: classes");
         for (Class<?> inner : all) {
