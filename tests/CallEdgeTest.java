@@ -207,7 +207,8 @@ public final class CallEdgeTest {
         d.is("now(2)", x.now(2), 1);
         d.said(1);
         d.is("undo()", x.undo(), 0);
-        edge(4, "what the SCHEMA was is no more", "table a x y z;table b w;key a x;need a y;default a y 7;check a x < 5;ref b w to a x clear clear;", "");
+        edge(4, "what the SCHEMA was is no more", "table a x y z;table b w;key a x;need a y;default a y 7;check a x < 5;"
+                + "ref b w to a x clear clear;", "");
         d.schema("table c v u;", 1);
         d.is("count(0)", x.count(0), 1);
         d.is("count(1)", x.count(1), 0);
@@ -288,7 +289,8 @@ public final class CallEdgeTest {
         d.put("insert t none 1");
         d.is("statement()", x.statement(), -16);
         d.is("nothing was done", x.now(1), 0);
-        edge(6, "-1000 less why it is refused", "table t a r;need t a;key t a;ref t r to t a clear follow;check t a < 50;", "insert t 1 1;");
+        edge(6, "-1000 less why it is refused", "table t a r;need t a;key t a;ref t r to t a clear follow;check t a < 50;",
+                "insert t 1 1;");
         d.does("insert t none none", -1001);
         d.does("insert t 1 none", -1002);
         d.does("insert t 2 3", -1003);
@@ -316,7 +318,8 @@ public final class CallEdgeTest {
         d.cells(0, 1, NONE);
         d.cells(1, 2, 1);
         d.is("undo() of the BOOK alone", x.undo(), 0);
-        edge(7, "told likewise", "table t a r;need t a;key t a;ref t r to t a clear follow;check t a < 50;", "insert t 1 1;");
+        edge(7, "told likewise", "table t a r;need t a;key t a;ref t r to t a clear follow;check t a < 50;",
+                "insert t 1 1;");
         d.would("insert t none none", -1001);
         d.would("insert t 1 none", -1002);
         d.would("insert t 2 3", -1003);
@@ -360,19 +363,24 @@ public final class CallEdgeTest {
         d.judged(0, 0, 0, 0);
         d.does("insert t 4", 1);
         d.judged(0, 0, 0, 0);
-        edge(8, "2 that were to go (by 5, too)", "table a k;table b k;table c r;key a k;key b k;ref b k to a k follow refuse;"
-                + "ref c r to a k clear refuse;ref c r to b k reset refuse;default c r 7;", "insert a 1;insert b 1;insert c 1;");
+        edge(8, "2 that were to go (by 5, too)", "table a k;table b k;table c r;key a k;key b k;"
+                + "ref b k to a k follow refuse;"
+                + "ref c r to a k clear refuse;ref c r to b k reset refuse;default c r 7;", "insert a 1;insert b 1;"
+                        + "insert c 1;");
         d.does("delete a", -1005);
         d.judged(5, 1, 2, 0);
-        edge(8, "2 that were to go, though it was refused", "table a k;table c r;key a k;ref c r to a k refuse refuse;", "insert a 1;insert a 2;insert c 1;");
+        edge(8, "2 that were to go, though it was refused", "table a k;table c r;key a k;ref c r to a k refuse refuse;",
+                "insert a 1;insert a 2;insert c 1;");
         d.does("delete a", -1003);
         d.judged(3, 2, 2, 0);
-        edge(8, "3 that were to have other VALUES than they had", ONE + "check t a < 9;", "insert t 1;insert t 2;insert t 3;");
+        edge(8, "3 that were to have other VALUES than they had", ONE + "check t a < 9;", "insert t 1;insert t 2;"
+                + "insert t 3;");
         d.would("set t a 2", 2);
         d.judged(0, 3, 0, 2);
         d.would("set t a 9", -1004);
         d.judged(4, 3, 0, 3);
-        edge(8, "3 of those that were not to go", "table p k;table c r s;key p k;ref c r to p k clear refuse;ref c s to p k follow refuse;",
+        edge(8, "3 of those that were not to go", "table p k;table c r s;key p k;ref c r to p k clear refuse;"
+                + "ref c s to p k follow refuse;",
                 "insert p 1;insert c 1 1;insert c 1 none;insert c none 1;");
         d.would("delete p", 4);
         d.judged(0, 1, 3, 1);
@@ -394,7 +402,8 @@ public final class CallEdgeTest {
     static void goes() {
         edge(9, "NONE: ahead of any", ONE, "insert t 1;");
         noneOf("goes", k -> x.goes(k), 0, -1);
-        edge(9, "the k-th ROW (from 0, by number) that was to go by it", "table c r;table p k;key p k;ref c r to p k follow refuse late;",
+        edge(9, "the k-th ROW (from 0, by number) that was to go by it", "table c r;table p k;key p k;"
+                + "ref c r to p k follow refuse late;",
                 "begin;insert p 9;insert c 1;insert p 1;insert c 9;insert c 1;");
         d.would("delete p if k = 1", 3);
         int[] due = {1, 2, 4};
@@ -418,7 +427,8 @@ public final class CallEdgeTest {
         d.is("goes(0) behind it", x.goes(0), 0);
         d.would("delete t", 0);
         noneOf("goes", k -> x.goes(k), 0);
-        edge(9, "though it was refused", "table p k;table c r;key p k;ref c r to p k refuse refuse;", "insert p 1;insert c 1;");
+        edge(9, "though it was refused", "table p k;table c r;key p k;ref c r to p k refuse refuse;", "insert p 1;"
+                + "insert c 1;");
         d.does("delete p", -1003);
         d.is("goes(0)", x.goes(0), 0);
         noneOf("goes", k -> x.goes(k), 1);
@@ -439,7 +449,8 @@ public final class CallEdgeTest {
         d.would("delete t", 3);
         d.would("insert t 8 none", 1);
         noneOf("steps", row -> x.steps(row), 0, 1, 2, 3);
-        edge(10, "of a ROW by its number, not by its place", CHAIN, "insert t 1 none;insert t 2 none;insert t 3 2;delete t if k = 1;");
+        edge(10, "of a ROW by its number, not by its place", CHAIN, "insert t 1 none;insert t 2 none;insert t 3 2;"
+                + "delete t if k = 1;");
         d.does("delete t if k = 2", 2);
         d.is("steps(1)", x.steps(1), 0);
         d.is("steps(2)", x.steps(2), 1);
@@ -456,7 +467,8 @@ public final class CallEdgeTest {
         edge(11, "NONE: ahead of any", ONE, "insert t 1;");
         noViolation("ahead");
         edge(11, "0 its kind, 1 the number of KEY, REF, CHECK (1: the COL), 2 the ROW",
-                "table t a b;key t b;key t a;need t b;ref t b to t b clear clear;ref t b to t a clear clear;check t b > 1;check t a > 1;", "insert t 2 2;");
+                "table t a b;key t b;key t a;need t b;ref t b to t b clear clear;ref t b to t a clear clear;check t b > 1;"
+                        + "check t a > 1;", "insert t 2 2;");
         d.does("insert t none none", -1001);
         d.violated(0, 1, 0, 1);
         d.violated(1, 1, 1, 1);
@@ -502,7 +514,8 @@ public final class CallEdgeTest {
         d.violated(0, 4, 0, 0);
         d.violated(1, 4, 0, 2);
         d.is("violated(2, 0)", x.violated(2, 0), NONE);
-        edge(11, "LATE ones are none of these, while a transaction is on", ONE + "need t a;check t a < 5 late;", "begin;insert t 7;");
+        edge(11, "LATE ones are none of these, while a transaction is on", ONE + "need t a;check t a < 5 late;", "begin;"
+                + "insert t 7;");
         d.does("insert t none", -1001);
         d.violated(0, 1, 0, 1);
         d.is("violated(1, 0)", x.violated(1, 0), NONE);
@@ -704,14 +717,16 @@ public final class CallEdgeTest {
     }
 
     static void now() {
-        edge(16, "0 ROWS, 1 how many were inserted so far", ONE, "insert t 1;insert t 2;delete t if a = 1;begin;insert t 3;back;");
+        edge(16, "0 ROWS, 1 how many were inserted so far", ONE, "insert t 1;insert t 2;delete t if a = 1;begin;insert t 3;"
+                + "back;");
         d.is("now(0)", x.now(0), 1);
         d.is("now(1)", x.now(1), 3);
         edge(16, "2 a transaction is on (1, 0)", ONE, "");
         d.is("now(2)", x.now(2), 0);
         d.is("begin()", x.begin(), 0);
         d.is("now(2)", x.now(2), 1);
-        edge(16, "3 VIOLATIONS now (LATE ones, too)", "table t a r;key t a;ref t r to t a clear clear late;check t a < 5 late;", "begin;insert t 7 8;insert t 9 none;");
+        edge(16, "3 VIOLATIONS now (LATE ones, too)", "table t a r;key t a;ref t r to t a clear clear late;"
+                + "check t a < 5 late;", "begin;insert t 7 8;insert t 9 none;");
         d.is("now(3)", x.now(3), 3);
         d.does("delete t if a = 9", 1);
         d.is("now(3)", x.now(3), 2);
@@ -731,7 +746,8 @@ public final class CallEdgeTest {
     }
 
     static void row() {
-        edge(18, "the k-th ROW (from 0, by number) of a TABLE", "table t a;table u a;", "insert u 1;insert t 2;insert u 3;insert u 4;delete u if a = 1;");
+        edge(18, "the k-th ROW (from 0, by number) of a TABLE", "table t a;table u a;", "insert u 1;insert t 2;insert u 3;"
+                + "insert u 4;delete u if a = 1;");
         d.is("row(0, 0)", x.row(0, 0), 1);
         d.is("row(1, 0)", x.row(1, 0), 2);
         d.is("row(1, 1)", x.row(1, 1), 3);
@@ -762,7 +778,8 @@ public final class CallEdgeTest {
     }
 
     static void refers() {
-        String three = "table t k r;table u r s;key t k;ref u r to t k clear clear;ref t r to t k clear clear;ref u s to t k clear clear;";
+        String three = "table t k r;table u r s;key t k;ref u r to t k clear clear;ref t r to t k clear clear;"
+                + "ref u s to t k clear clear;";
         edge(21, "to which ROW one refers by a REF", three, "insert t 1 1;insert t 2 1;insert u 2 1;");
         d.is("refers(0, 1)", x.refers(0, 1), 0);
         d.is("refers(1, 1)", x.refers(1, 1), 0);
@@ -771,7 +788,8 @@ public final class CallEdgeTest {
         edge(21, "NONE: to none", three, "insert t 1 none;insert u none none;");
         d.is("refers(0, 1)", x.refers(0, 1), NONE);
         d.is("refers(1, 0)", x.refers(1, 0), NONE);
-        edge(21, "NONE: to none, though it should", "table t k r;key t k;ref t r to t k clear clear late;", "begin;insert t 1 2;");
+        edge(21, "NONE: to none, though it should", "table t k r;key t k;ref t r to t k clear clear late;", "begin;"
+                + "insert t 1 2;");
         d.is("refers(0, 0)", x.refers(0, 0), NONE);
         edge(21, "NONE: no such ones", three, "insert t 1 1;insert t 2 2;delete t if k = 2;");
         noneOf("refers", row -> x.refers(row, 1), 1, 2, 99, -1, LOW, HIGH);
@@ -784,7 +802,8 @@ public final class CallEdgeTest {
 
     static void referred() {
         String two = "table t k r s;key t k;ref t r to t k clear clear;ref t s to t k clear clear;";
-        edge(22, "how many ROWS refer to one (by each REF that does)", two, "insert t 1 none none;insert t 2 1 1;insert t 3 1 2;insert t 4 4 4;");
+        edge(22, "how many ROWS refer to one (by each REF that does)", two, "insert t 1 none none;insert t 2 1 1;"
+                + "insert t 3 1 2;insert t 4 4 4;");
         d.is("referred(0)", x.referred(0), 3);
         d.is("referred(1)", x.referred(1), 1);
         d.is("referred(2)", x.referred(2), 0);
@@ -851,8 +870,10 @@ public final class CallEdgeTest {
     }
 
     static void ref() {
-        String two = "table t a b;table u c e;key u e c;key u c;ref t a to u c reset clear late;ref t a b to u e c follow reset full;ref u c to u c refuse follow full late;";
-        edge(25, "0 its TABLE, 1 the other one, 2 the KEY, 3 its first ON, 4 the second, 5 'full', 6 'late' (1, 0 each)", two, "");
+        String two = "table t a b;table u c e;key u e c;key u c;ref t a to u c reset clear late;"
+                + "ref t a b to u e c follow reset full;ref u c to u c refuse follow full late;";
+        edge(25, "0 its TABLE, 1 the other one, 2 the KEY, 3 its first ON, 4 the second, 5 'full', 6 'late' (1, 0 each)",
+                two, "");
         int[][] due = {{0, 1, 1, 3, 2, 0, 1}, {0, 1, 0, 1, 3, 1, 0}, {1, 1, 1, 0, 1, 1, 1}};
         for (int f = 0; f < 3; f++) {
             for (int what = 0; what < 7; what++) {
@@ -927,7 +948,8 @@ public final class CallEdgeTest {
     }
 
     static void tag() {
-        edge(29, "TAG of a ROW: how many bytes", "table t a;table quarter a b c d;", "insert t none;insert quarter 10 1 none 99;");
+        edge(29, "TAG of a ROW: how many bytes", "table t a;table quarter a b c d;", "insert t none;"
+                + "insert quarter 10 1 none 99;");
         d.is("tag(0)", x.tag(0), 5);
         d.is("tag(1)", x.tag(1), 19);
         edge(29, "NONE: no such one", ONE, "insert t 1;insert t 2;delete t if a = 1;");
@@ -968,7 +990,8 @@ public final class CallEdgeTest {
         edge(31, "n times (1 to 40): how many were done", ONE, "");
         d.is("drawn(1, 1)", x.drawn(1, 1), 1);
         d.is("drawn(40, 1)", x.drawn(40, 1), 40);
-        edge(31, "how many were done: those that can't be are not counted", ONE + "need t a;check t a > 8;check t a < 6;", "");
+        edge(31, "how many were done: those that can't be are not counted", ONE + "need t a;check t a > 8;check t a < 6;",
+                "");
         RowEdgeTest.Dice dice = new RowEdgeTest.Dice(5);
         int due = 0;
         for (int i = 0; i < 40; i++) {
@@ -1078,7 +1101,8 @@ public final class CallEdgeTest {
         String all = "table t a r;need t a;key t a;ref t r to t a clear follow;check t a < 50;check t a < 40 late;";
         edge(33, "0 why it was WRONG (0: it was not)", all, "insert t 1 1;");
         tells(0, 1, 1, 0);
-        String[] wrong = {"insert t none none;", "insert t 1 none;", "insert t 2 3;", "insert t 50 none;", "set t a 2 r none;"};
+        String[] wrong = {"insert t none none;", "insert t 1 none;", "insert t 2 3;", "insert t 50 none;",
+                "set t a 2 r none;"};
         for (int why = 1; why <= 5; why++) {
             edge(33, "0 why it was WRONG: " + why + " a STATEMENT", all, "insert t 1 1;");
             d.book(0, "insert t 9 none;" + wrong[why - 1], 1);
@@ -1158,7 +1182,8 @@ public final class CallEdgeTest {
     static void said() {
         edge(35, "NONE: there is no SENTENCE", ONE, "insert t 1;");
         noneOf("said", k -> x.said(k), -1, 0, 1, -2);
-        edge(35, "how many (k NONE), or the k-th (by number)", "table t a;table u a;", "insert u 1;insert t 1;insert u 2;insert u 1;delete u if a = 2;");
+        edge(35, "how many (k NONE), or the k-th (by number)", "table t a;table u a;", "insert u 1;insert t 1;insert u 2;"
+                + "insert u 1;delete u if a = 2;");
         d.sentence("a = 1", 1);
         d.is("said(-1)", x.said(-1), 3);
         d.is("said(0)", x.said(0), 0);
@@ -1190,14 +1215,18 @@ public final class CallEdgeTest {
     }
 
     static void saidOfParts() {
-        edge(35, "'bare' (some COL of it has none)", "table t a b;table u a;", "insert t 1 2;insert t none 2;insert t 1 none;insert t none none;insert u 0;insert u none;");
+        edge(35, "'bare' (some COL of it has none)", "table t a b;table u a;", "insert t 1 2;insert t none 2;"
+                + "insert t 1 none;insert t none none;insert u 0;insert u none;");
         d.sentence("bare", 1);
         d.said(1, 2, 3, 5);
-        edge(35, "'known' (some ROW refers to it)", "table t k r;table u r;key t k;ref t r to t k clear clear;ref u r to t k clear clear;",
+        edge(35, "'known' (some ROW refers to it)", "table t k r;table u r;key t k;ref t r to t k clear clear;"
+                + "ref u r to t k clear clear;",
                 "insert t 1 1;insert t 2 1;insert t 3 none;insert t 4 none;insert u 4;");
         d.sentence("known", 1);
         d.said(0, 3);
-        edge(35, "'broken' (it violates something now), LATE ones, too", "table t k r;key t k;ref t r to t k clear clear late;check t k < 5 late;", "begin;insert t 1 1;insert t 2 8;insert t 7 none;insert t 4 1;");
+        edge(35, "'broken' (it violates something now), LATE ones, too", "table t k r;key t k;"
+                + "ref t r to t k clear clear late;check t k < 5 late;", "begin;insert t 1 1;insert t 2 8;insert t 7 none;"
+                + "insert t 4 1;");
         d.sentence("broken", 1);
         d.said(1, 2);
         d.does("insert t 8 none", 1);
@@ -1218,7 +1247,8 @@ public final class CallEdgeTest {
         d.said(3);
         d.sentence("row > 99", 1);
         d.said();
-        edge(35, "COL of some TABLE SIGN NUMBER", "table t a b;table u b;table v c a;", "insert t 5 1;insert u 5;insert v 1 5;insert t 6 5;insert v 5 4;");
+        edge(35, "COL of some TABLE SIGN NUMBER", "table t a b;table u b;table v c a;", "insert t 5 1;insert u 5;"
+                + "insert v 1 5;insert t 6 5;insert v 5 4;");
         d.sentence("a = 5", 1);
         d.said(0, 2);
         d.sentence("b < 5", 1);
@@ -1244,16 +1274,21 @@ public final class CallEdgeTest {
     }
 
     static void saidJoined() {
-        String eight = "insert t 0 0 0;insert t 0 0 1;insert t 0 1 0;insert t 0 1 1;insert t 1 0 0;insert t 1 0 1;insert t 1 1 0;insert t 1 1 1;";
-        String[] texts = {"a=1 or b=1 and c=1", "a=1 and b=1 or c=1", "(a=1 or b=1) and c=1", "a=1 and (b=1 or c=1)", "not a=1 and b=1",
-            "not (a=1 and b=1)", "not a=1 or b=1", "not not a=1", "a=1 and b=1 and c=1", "a=1 or b=1 or c=1", "not (a=1 or not (b=1 and not c=1))"};
-        int[][] due = {{3, 4, 5, 6, 7}, {1, 3, 5, 6, 7}, {3, 5, 7}, {5, 6, 7}, {2, 3}, {0, 1, 2, 3, 4, 5}, {0, 1, 2, 3, 6, 7}, {4, 5, 6, 7}, {7}, {1, 2, 3, 4, 5, 6, 7}, {2}};
+        String eight = "insert t 0 0 0;insert t 0 0 1;insert t 0 1 0;insert t 0 1 1;insert t 1 0 0;insert t 1 0 1;"
+                + "insert t 1 1 0;insert t 1 1 1;";
+        String[] texts = {"a=1 or b=1 and c=1", "a=1 and b=1 or c=1", "(a=1 or b=1) and c=1", "a=1 and (b=1 or c=1)",
+                "not a=1 and b=1",
+            "not (a=1 and b=1)", "not a=1 or b=1", "not not a=1", "a=1 and b=1 and c=1", "a=1 or b=1 or c=1",
+                    "not (a=1 or not (b=1 and not c=1))"};
+        int[][] due = {{3, 4, 5, 6, 7}, {1, 3, 5, 6, 7}, {3, 5, 7}, {5, 6, 7}, {2, 3}, {0, 1, 2, 3, 4, 5}, {0, 1, 2, 3, 6,
+                7}, {4, 5, 6, 7}, {7}, {1, 2, 3, 4, 5, 6, 7}, {2}};
         for (int i = 0; i < texts.length; i++) {
             edge(35, "joined: " + texts[i], "table t a b c;", eight);
             d.so("sentence", d.put(texts[i]).x.sentence() > 0, true);
             d.said(due[i]);
         }
-        edge(35, "joined: each ONE by its own SIGN, TABLE", "table t a;table u a;", "insert t 0;insert t 1;insert u none;insert t 3;insert t 4;insert u 5;");
+        edge(35, "joined: each ONE by its own SIGN, TABLE", "table t a;table u a;", "insert t 0;insert t 1;insert u none;"
+                + "insert t 3;insert t 4;insert u 5;");
         d.sentence("row < 1 or row > 4 or row = 3", 3);
         d.said(0, 3, 5);
         d.sentence("bare or in t and a > 3", 3);
@@ -1290,7 +1325,8 @@ public final class CallEdgeTest {
             d.said(1);
         }
         edge(35, "joined: 20 ONES, 8 within one another", ONE, "insert t 0;insert t 1;");
-        d.sentence("not ".repeat(7) + "a = 1 and " + "(".repeat(7) + "a = 0" + ")".repeat(7) + " or a = 1 and a = 0 or row > 5 and bare", 20);
+        d.sentence("not ".repeat(7) + "a = 1 and " + "(".repeat(7) + "a = 0" + ")".repeat(7) + " or a = 1 and a = 0 or row > 5 and bare",
+                20);
         d.said(0);
     }
 
@@ -1331,7 +1367,8 @@ public final class CallEdgeTest {
         d.so("image(0)", x.image(0), true);
         d.so("restore(1)", x.restore(1), false);
         d.is("undo() still can be", x.undo(), 0);
-        edge(37, "SCHEMA, all that is so and the SENTENCE are as kept", CHAIN, "insert t 1 none;begin;insert t 2 1;insert t 3 2;delete t if k = 3;");
+        edge(37, "SCHEMA, all that is so and the SENTENCE are as kept", CHAIN, "insert t 1 none;begin;insert t 2 1;"
+                + "insert t 3 2;delete t if k = 3;");
         d.sentence("known", 1);
         d.so("image(1)", x.image(1), true);
         d.schema("table u b;", 1);
@@ -1402,7 +1439,8 @@ public final class CallEdgeTest {
     }
 
     static void wentLast() {
-        edge(19, "the ROW that went is none, though it was the last", "table t k r;key t k;ref t r to t k clear clear;", "insert t 1 none;insert t 2 1;insert t 3 1;delete t if k = 3;");
+        edge(19, "the ROW that went is none, though it was the last", "table t k r;key t k;ref t r to t k clear clear;",
+                "insert t 1 none;insert t 2 1;insert t 3 1;delete t if k = 3;");
         int row = 2;
         noneOf("tableOf", n -> x.tableOf(n), row);
         noneOf("referred", n -> x.referred(n), row);
@@ -1417,7 +1455,8 @@ public final class CallEdgeTest {
     }
 
     static void count() {
-        edge(38, "0 TABLES, 1 KEYS, 2 REFS, 3 CHECKS", "table t a;table u b;table v a;key t a;key v a;ref u b to t a clear clear;check t a < 5;check u b > 2;check u b < 9;check v a=1;", "");
+        edge(38, "0 TABLES, 1 KEYS, 2 REFS, 3 CHECKS", "table t a;table u b;table v a;key t a;key v a;"
+                + "ref u b to t a clear clear;check t a < 5;check u b > 2;check u b < 9;check v a=1;", "");
         int[] due = {3, 2, 1, 4};
         for (int what = 0; what < 4; what++) {
             d.is("count(" + what + ")", x.count(what), due[what]);

@@ -66,6 +66,7 @@ public final class FaultTest {
         d.schema(short11 + repeated(" ", 880) + "need t a  ;", 900, 1);
         d.schema(short11 + repeated(" ", 884) + "need b c;", 899, 3);
         d.schema("table t a" + repeated(" ", 931), 900, 1);
+        fresh("the most bytes of other texts");
         d.schema("table t a;", 1);
         d.does("insert t 5" + repeated(" ", 190), 1);
         d.does("insert t 5" + repeated(" ", 191), 200, 1);

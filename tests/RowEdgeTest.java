@@ -84,17 +84,20 @@ public final class RowEdgeTest {
     }
 
     static void referring() {
-        edge("2: it refers to the ROW whose KEY's COLS have what its own have", PAIRS + "ref v c e to u a b refuse refuse late;");
+        edge("2: it refers to the ROW whose KEY's COLS have what its own have",
+                PAIRS + "ref v c e to u a b refuse refuse late;");
         rows("begin;insert u 1 2;insert u 2 1;insert v 2 1;insert v 1 1;insert v 1 2;");
         d.is("refers(2, 0)", x.refers(2, 0), 1);
         d.is("refers(3, 0)", x.refers(3, 0), NONE);
         d.is("refers(4, 0)", x.refers(4, 0), 0);
-        edge("2: it refers to the ROW whose KEY's COLS have what its own have: 0 is a VALUE", PAIRS + "ref v c e to u a b refuse refuse;");
+        edge("2: it refers to the ROW whose KEY's COLS have what its own have: 0 is a VALUE",
+                PAIRS + "ref v c e to u a b refuse refuse;");
         rows("insert u 1 1;insert u 1 0;insert u 0 1;insert u 0 0;insert v 0 0;insert v 1 0;insert v 0 1;");
         d.is("refers(4, 0)", x.refers(4, 0), 3);
         d.is("refers(5, 0)", x.refers(5, 0), 1);
         d.is("refers(6, 0)", x.refers(6, 0), 2);
-        edge("2: it refers to the ROW whose KEY's COLS have what its own have: in that order", "table u a b c d;table v c e;key u b a;ref v c e to u b a refuse refuse late;");
+        edge("2: it refers to the ROW whose KEY's COLS have what its own have: in that order", "table u a b c d;table v c e;"
+                + "key u b a;ref v c e to u b a refuse refuse late;");
         rows("begin;insert u 1 2 3 4;insert u 2 1 3 4;insert v 1 2;insert v 2 1;insert v 1 1;");
         d.is("refers(2, 0)", x.refers(2, 0), 1);
         d.is("refers(3, 0)", x.refers(3, 0), 0);
@@ -114,7 +117,8 @@ public final class RowEdgeTest {
             d.is("refers(" + row + ", 0)", x.refers(row, 0), NONE);
         }
         d.is("referred(0)", x.referred(0), 0);
-        edge("2: it refers to a ROW of the other TABLE alone", "table t a b;table u a b;key t a;key u a;ref t b to u a refuse refuse late;");
+        edge("2: it refers to a ROW of the other TABLE alone", "table t a b;table u a b;key t a;key u a;"
+                + "ref t b to u a refuse refuse late;");
         rows("begin;insert t 1 1;insert u 2 1;");
         d.is("refers(0, 0)", x.refers(0, 0), NONE);
         d.is("refers(1, 0)", x.refers(1, 0), NONE);
@@ -200,7 +204,8 @@ public final class RowEdgeTest {
         d.does("insert v none 2", -1003);
         d.does("insert v none none", 1);
         d.does("insert v 1 2", 1);
-        edge("2, VIOLATIONS: 3 ('full') of a REF of one COL there are none by this", FAMILY + "ref c r to p k refuse refuse full;");
+        edge("2, VIOLATIONS: 3 ('full') of a REF of one COL there are none by this",
+                FAMILY + "ref c r to p k refuse refuse full;");
         d.does("insert c none 1", 1);
         d.does("insert c 1 none", -1003);
         edge("2, VIOLATIONS: 3 a ROW may refer to itself", "table t a b;key t a;ref t b to t a refuse refuse;");
@@ -231,7 +236,8 @@ public final class RowEdgeTest {
     }
 
     static void orderOfViolations() {
-        edge("2, VIOLATIONS: in order by kind", "table t a b c;key t a;need t b;ref t c to t a refuse refuse;check t a > 5;");
+        edge("2, VIOLATIONS: in order by kind", "table t a b c;key t a;need t b;ref t c to t a refuse refuse;"
+                + "check t a > 5;");
         rows("insert t 7 1 none;");
         d.does("insert t 7 none 3", -1001);
         d.violated(0, 1, 1, 1);
@@ -361,7 +367,8 @@ public final class RowEdgeTest {
     }
 
     static void goneOnes() {
-        edge("2: what it referred to goes: by the first ON 'clear' none in the COLS of the REF", FAMILY + "ref c r to p k clear follow;");
+        edge("2: what it referred to goes: by the first ON 'clear' none in the COLS of the REF",
+                FAMILY + "ref c r to p k clear follow;");
         rows("insert p 1 0;insert p 2 0;insert c 1 9;insert c 2 9;insert c none 9;");
         d.does("delete p if k = 1", 2);
         d.cells(2, NONE, 9);
@@ -370,7 +377,8 @@ public final class RowEdgeTest {
         rows("insert p 1 0;insert p 4 0;insert c 1 9;");
         d.does("delete p if k = 1", 2);
         d.cells(2, 4, 9);
-        edge("2: what it referred to goes: 'reset': none without a default", "table p k;table c r s;key p k;ref c r to p k reset follow;default c s 7;");
+        edge("2: what it referred to goes: 'reset': none without a default", "table p k;table c r s;key p k;"
+                + "ref c r to p k reset follow;default c s 7;");
         rows("insert p 1;insert c 1 9;");
         d.does("delete p", 2);
         d.cells(1, NONE, 9);
@@ -393,7 +401,8 @@ public final class RowEdgeTest {
         int[] then = {1, 8, NONE, 4};
         for (int on = 0; on < 4; on++) {
             String word = TextEdgeTest.ONS[on];
-            edge("2: its KEY's COL is to have another VALUE: by the second ON '" + word + "'", FAMILY + "ref c r to p k follow " + word + ";");
+            edge("2: its KEY's COL is to have another VALUE: by the second ON '" + word + "'",
+                    FAMILY + "ref c r to p k follow " + word + ";");
             rows("insert p 1 0;insert p 4 0;insert c 1 9;insert c 4 9;");
             d.does("set p k 8 if k = 1", due[on]);
             d.cells(2, then[on], 9);
@@ -417,9 +426,11 @@ public final class RowEdgeTest {
     }
 
     static void changedPairs() {
-        String[][] sets = {{"set u a 8", "8", "2"}, {"set u b 9", "1", "9"}, {"set u a 8 b 9", "8", "9"}, {"set u b 2 a 8", "8", "2"}};
+        String[][] sets = {{"set u a 8", "8", "2"}, {"set u b 9", "1", "9"}, {"set u a 8 b 9", "8", "9"}, {"set u b 2 a 8",
+                "8", "2"}};
         for (String[] set : sets) {
-            edge("2: by the second ON 'follow': the COLS of the REF for just these COLS: " + set[0], PAIRS + "ref v c e to u a b refuse follow;");
+            edge("2: by the second ON 'follow': the COLS of the REF for just these COLS: " + set[0],
+                    PAIRS + "ref v c e to u a b refuse follow;");
             rows("insert u 1 2;insert v 1 2;");
             d.does(set[0], 2);
             d.cells(1, Integer.parseInt(set[1]), Integer.parseInt(set[2]));
@@ -432,7 +443,8 @@ public final class RowEdgeTest {
             d.does(set[0] + " if a = 1", 2);
             d.cells(2, 4, 5);
         }
-        edge("2: by the second ON 'follow': for just these COLS", PAIRS + "ref v c e to u a b refuse follow;ref v e c to u a b refuse refuse;");
+        edge("2: by the second ON 'follow': for just these COLS", PAIRS + "ref v c e to u a b refuse follow;"
+                + "ref v e c to u a b refuse refuse;");
         rows("insert u 1 2;insert u 2 1;insert v 1 2;");
         d.would("set u a 8 if a = 1", -1003);
         d.violated(0, 3, 1, 2);
@@ -440,30 +452,35 @@ public final class RowEdgeTest {
     }
 
     static void overAndOver() {
-        edge("2: of all ROWS, over and over: a change goes on", "table t k r;key t k;ref t r to t k refuse follow;table u i;key u i;ref t k to u i refuse follow;");
+        edge("2: of all ROWS, over and over: a change goes on", "table t k r;key t k;ref t r to t k refuse follow;table u i;"
+                + "key u i;ref t k to u i refuse follow;");
         rows("insert u 1;insert u 2;insert u 3;insert t 1 none;insert t 2 1;insert t 3 1;");
         d.does("set u i 7 if i = 1", 4);
         d.cells(3, 7, NONE);
         d.cells(4, 2, 7);
         d.cells(5, 3, 7);
-        edge("2: of all ROWS, over and over: ROWS ahead of what they refer to", "table a k;table b k;table c k;key a k;key b k;key c k;"
+        edge("2: of all ROWS, over and over: ROWS ahead of what they refer to", "table a k;table b k;table c k;key a k;"
+                + "key b k;key c k;"
                 + "ref c k to b k refuse follow;ref b k to a k refuse follow;");
         rows("insert a 1;insert b 1;insert c 1;");
         d.does("set a k 2", 3);
         d.cells(2, 2);
-        edge("2: of all ROWS, over and over: ROWS ahead of those that they refer to", "table a k;table b k;table c k;table e k;key a k;key b k;key c k;key e k;"
+        edge("2: of all ROWS, over and over: ROWS ahead of those that they refer to", "table a k;table b k;table c k;"
+                + "table e k;key a k;key b k;key c k;key e k;"
                 + "ref e k to c k refuse follow late;ref c k to b k refuse follow late;ref b k to a k refuse follow late;");
         rows("begin;insert e 1;insert c 1;insert b 1;insert a 1;commit;");
         d.does("set a k 2", 4);
         d.cells(0, 2);
         d.cells(1, 2);
-        edge("2: of all ROWS, over and over: of a deletion, too", "table a k;table b k r;table c s;key a k;key b k r;key b r;default b r 3;"
+        edge("2: of all ROWS, over and over: of a deletion, too", "table a k;table b k r;table c s;key a k;key b k r;"
+                + "key b r;default b r 3;"
                 + "ref b r to a k reset refuse;ref c s to b r refuse follow;");
         rows("insert a 1;insert a 3;insert b 5 1;insert c 1;");
         d.does("delete a if k = 1", 3);
         d.cells(2, 5, 3);
         d.cells(3, 3);
-        edge("2: of all ROWS, over and over: round a ring, to its begin", "table t k r;key t k;key t r;ref t r to t k refuse follow late;ref t k to t r refuse follow late;");
+        edge("2: of all ROWS, over and over: round a ring, to its begin", "table t k r;key t k;key t r;"
+                + "ref t r to t k refuse follow late;ref t k to t r refuse follow late;");
         rows("begin;insert t 1 2;insert t 2 3;insert t 3 1;commit;");
         d.does("set t k 9 if k = 2", 2);
         d.cells(0, 1, 9);
@@ -484,7 +501,8 @@ public final class RowEdgeTest {
 
     static void twoValues() {
         String both = "table p k;table q k;table c r;key p k;key q k;default c r 3;";
-        edge("2: 5 one COL of one ROW is to have two unlike VALUES", both + "ref c r to p k refuse follow;ref p k to q k refuse follow;ref c r to q k refuse reset;");
+        edge("2: 5 one COL of one ROW is to have two unlike VALUES", both + "ref c r to p k refuse follow;"
+                + "ref p k to q k refuse follow;ref c r to q k refuse reset;");
         rows("insert q 1;insert q 3;insert p 1;insert p 3;insert c 1;");
         refusedByFive("set q k 8 if k = 1", 1, 0);
         d.cells(4, 1);
@@ -493,25 +511,30 @@ public final class RowEdgeTest {
         refusedByFive("set t k 2 r 1", 1, 0);
         d.does("set t k 2 r 2", 1);
         d.cells(0, 2, 2);
-        edge("2: 5 one of these may be what it has, and none is unlike a VALUE", both + "ref c r to p k clear refuse;ref c r to q k reset refuse;ref p k to q k follow refuse;");
+        edge("2: 5 one of these may be what it has, and none is unlike a VALUE", both + "ref c r to p k clear refuse;"
+                + "ref c r to q k reset refuse;ref p k to q k follow refuse;");
         rows("insert q 1;insert q 3;insert p 1;insert p 3;insert c 1;");
         refusedByFive("delete q if k = 1", 1, 2);
         d.is("goes(0)", x.goes(0), 0);
         d.is("goes(1)", x.goes(1), 2);
         d.is("steps(2)", x.steps(2), 1);
-        edge("2: 5 like ones are no matter", both + "ref c r to p k refuse follow;ref p k to q k refuse follow;ref c r to q k refuse follow;");
+        edge("2: 5 like ones are no matter", both + "ref c r to p k refuse follow;ref p k to q k refuse follow;"
+                + "ref c r to q k refuse follow;");
         rows("insert q 1;insert p 1;insert c 1;");
         d.does("set q k 8", 3);
         d.cells(2, 8);
-        edge("2: 5 like ones are no matter: none twice", both + "ref c r to p k clear refuse;ref p k to q k follow refuse;ref c r to q k clear refuse;");
+        edge("2: 5 like ones are no matter: none twice", both + "ref c r to p k clear refuse;ref p k to q k follow refuse;"
+                + "ref c r to q k clear refuse;");
         rows("insert q 1;insert p 1;insert c 1;");
         d.does("delete q", 3);
         d.cells(2, NONE);
-        edge("2: 5 like ones are no matter: a default that is like", both + "ref c r to p k refuse follow;ref p k to q k refuse follow;ref c r to q k refuse reset;");
+        edge("2: 5 like ones are no matter: a default that is like", both + "ref c r to p k refuse follow;"
+                + "ref p k to q k refuse follow;ref c r to q k refuse reset;");
         rows("insert q 1;insert p 1;insert c 1;");
         d.does("set q k 3", 3);
         d.cells(2, 3);
-        edge("2: 5 nor is what ROWS that go would have", both + "ref c r to p k clear refuse;ref c r to q k reset refuse;ref p k to q k follow refuse;"
+        edge("2: 5 nor is what ROWS that go would have", both + "ref c r to p k clear refuse;ref c r to q k reset refuse;"
+                + "ref p k to q k follow refuse;"
                 + "ref c r to q k follow refuse;");
         rows("insert q 1;insert p 1;insert c 1;");
         d.does("delete q", 3);
@@ -554,17 +577,20 @@ public final class RowEdgeTest {
     }
 
     static void lateOnes() {
-        edge("2: LATE ones are VIOLATIONS without a transaction", FAMILY + "ref c r to p k clear follow late;check c s < 5 late;");
+        edge("2: LATE ones are VIOLATIONS without a transaction", FAMILY + "ref c r to p k clear follow late;"
+                + "check c s < 5 late;");
         d.does("insert c 1 2", -1003);
         d.does("insert c none 7", -1004);
-        edge("2: LATE ones are none, while a transaction is on", FAMILY + "ref c r to p k clear follow late;check c s < 5 late;check c s < 50;");
+        edge("2: LATE ones are none, while a transaction is on", FAMILY + "ref c r to p k clear follow late;"
+                + "check c s < 5 late;check c s < 50;");
         d.is("begin()", x.begin(), 0);
         d.does("insert c 1 2", 1);
         d.does("insert c none 7", 1);
         d.does("insert c none 70", -1004);
         d.violated(0, 4, 1, 2);
         d.is("violated(1, 0)", x.violated(1, 0), NONE);
-        edge("2: LATE ones are those of REFS and CHECKS alone that are 'late'", FAMILY + "ref c r to p k clear follow;ref c s to p k clear follow late;check c s < 5;check c r < 5 late;need c s;");
+        edge("2: LATE ones are those of REFS and CHECKS alone that are 'late'", FAMILY + "ref c r to p k clear follow;"
+                + "ref c s to p k clear follow late;check c s < 5;check c r < 5 late;need c s;");
         d.is("begin()", x.begin(), 0);
         d.does("insert c 1 2", -1003);
         d.violated(0, 3, 0, 0);
@@ -627,7 +653,8 @@ public final class RowEdgeTest {
     }
 
     static void touched() {
-        edge("3, TOUCHED: ROWS that are inserted, that go, of which some COL has another VALUE", FAMILY + "ref c r to p k follow clear;ref c s to p k clear follow;");
+        edge("3, TOUCHED: ROWS that are inserted, that go, of which some COL has another VALUE",
+                FAMILY + "ref c r to p k follow clear;ref c s to p k clear follow;");
         d.does("insert p 1 0", 1);
         rows("insert p 2 0;insert c 1 2;insert c 2 1;insert c 2 2;");
         d.would("delete p if k = 1", 3);
@@ -651,13 +678,15 @@ public final class RowEdgeTest {
         d.is("steps(1)", x.steps(1), 0);
         d.is("steps(2)", x.steps(2), 1);
         d.is("steps(3)", x.steps(3), 2);
-        edge("3, STEPS: 1 more than the fewest", "table t k r s;key t k;ref t r to t k follow refuse;ref t s to t k follow refuse;");
+        edge("3, STEPS: 1 more than the fewest", "table t k r s;key t k;ref t r to t k follow refuse;"
+                + "ref t s to t k follow refuse;");
         rows("insert t 1 none none;insert t 2 1 none;insert t 3 2 none;insert t 4 3 1;insert t 5 4 3;");
         d.would("delete t if k = 1", 5);
         d.is("steps(2)", x.steps(2), 2);
         d.is("steps(3)", x.steps(3), 1);
         d.is("steps(4)", x.steps(4), 2);
-        edge("3, STEPS: to one to which it refers by such a REF", "table t k r s;key t k;ref t r to t k clear refuse;ref t s to t k follow refuse;");
+        edge("3, STEPS: to one to which it refers by such a REF", "table t k r s;key t k;ref t r to t k clear refuse;"
+                + "ref t s to t k follow refuse;");
         rows("insert t 1 none none;insert t 2 1 none;insert t 3 1 1;insert t 4 1 3;insert t 5 4 2;");
         d.would("delete t if k = 1", 5);
         d.is("steps(1)", x.steps(1), NONE);
@@ -682,25 +711,30 @@ public final class RowEdgeTest {
 
     static void perils() {
         String four = "table a k;table b k;table c k;table d k;key a k;key b k;key c k;key d k;";
-        edge("3, PERILS: by 'follow', over and over", four + "ref d k to c k follow refuse;ref c k to b k follow refuse;ref b k to a k follow refuse;");
+        edge("3, PERILS: by 'follow', over and over", four + "ref d k to c k follow refuse;ref c k to b k follow refuse;"
+                + "ref b k to a k follow refuse;");
         int[] due = {14, 12, 8, 0};
         for (int t = 0; t < 4; t++) {
             d.is("table(" + t + ", 4)", x.table(t, 4), due[t]);
         }
-        edge("3, PERILS: by no other ON, nor by a change", four + "ref d k to c k clear follow;ref c k to b k reset follow;ref b k to a k refuse follow;");
+        edge("3, PERILS: by no other ON, nor by a change", four + "ref d k to c k clear follow;ref c k to b k reset follow;"
+                + "ref b k to a k refuse follow;");
         for (int t = 0; t < 4; t++) {
             d.is("table(" + t + ", 4)", x.table(t, 4), 0);
         }
-        edge("3, PERILS: itself, if it comes back", four + "ref a k to b k follow refuse;ref b k to c k follow refuse;ref c k to a k follow refuse;ref d k to d k follow refuse;");
+        edge("3, PERILS: itself, if it comes back", four + "ref a k to b k follow refuse;ref b k to c k follow refuse;"
+                + "ref c k to a k follow refuse;ref d k to d k follow refuse;");
         int[] rings = {7, 7, 7, 8};
         for (int t = 0; t < 4; t++) {
             d.is("table(" + t + ", 4)", x.table(t, 4), rings[t]);
         }
-        edge("3, PERILS: by a ring of four, told from its end", four + "ref a k to d k follow refuse;ref d k to c k follow refuse;ref c k to b k follow refuse;ref b k to a k follow refuse;");
+        edge("3, PERILS: by a ring of four, told from its end", four + "ref a k to d k follow refuse;"
+                + "ref d k to c k follow refuse;ref c k to b k follow refuse;ref b k to a k follow refuse;");
         for (int t = 0; t < 4; t++) {
             d.is("table(" + t + ", 4)", x.table(t, 4), 15);
         }
-        edge("3, PERILS: itself, not if it does not come back", four + "ref a k to b k follow refuse;ref b k to c k follow refuse;ref c k to b k follow refuse;");
+        edge("3, PERILS: itself, not if it does not come back", four + "ref a k to b k follow refuse;"
+                + "ref b k to c k follow refuse;ref c k to b k follow refuse;");
         d.is("table(0, 4)", x.table(0, 4), 0);
         d.is("table(1, 4)", x.table(1, 4), 7);
         d.is("table(2, 4)", x.table(2, 4), 7);
@@ -718,17 +752,21 @@ public final class RowEdgeTest {
         String four = "table a k;table b k;table c k;table d k;key a k;key b k;key c k;key d k;";
         edge("3, ORDER: without REFS by number", four);
         ordered(0, 1, 2, 3);
-        edge("3, ORDER: each refers to none behind it", four + "ref a k to b k clear clear;ref b k to c k clear clear;ref c k to d k clear clear;");
+        edge("3, ORDER: each refers to none behind it", four + "ref a k to b k clear clear;ref b k to c k clear clear;"
+                + "ref c k to d k clear clear;");
         ordered(3, 2, 1, 0);
-        edge("3, ORDER: of like ones the first: the least number at each place", four + "ref a k to d k clear clear;ref b k to c k clear clear;");
+        edge("3, ORDER: of like ones the first: the least number at each place", four + "ref a k to d k clear clear;"
+                + "ref b k to c k clear clear;");
         ordered(2, 1, 3, 0);
-        edge("3, ORDER: the least number at each place, as soon as it can be", four + "ref b k to d k clear clear;ref a k to c k clear clear;");
+        edge("3, ORDER: the least number at each place, as soon as it can be", four + "ref b k to d k clear clear;"
+                + "ref a k to c k clear clear;");
         ordered(2, 0, 3, 1);
         edge("3, ORDER: to itself it may", four + "ref a k to a k clear clear;ref c k to c k clear clear;");
         ordered(0, 1, 2, 3);
         edge("3, ORDER: on a ring there is none", four + "ref a k to b k clear clear;ref b k to a k clear clear;");
         d.is("order()", x.order(), NONE);
-        edge("3, ORDER: on a ring of four there is none", four + "ref a k to b k clear clear;ref b k to c k clear clear;ref c k to d k clear clear;ref d k to a k clear clear;");
+        edge("3, ORDER: on a ring of four there is none", four + "ref a k to b k clear clear;ref b k to c k clear clear;"
+                + "ref c k to d k clear clear;ref d k to a k clear clear;");
         d.is("order()", x.order(), NONE);
     }
 
@@ -772,7 +810,8 @@ public final class RowEdgeTest {
     }
 
     static void tag() {
-        edge("3, TAG: NAME, a blank, its number, then for each COL a blank and its VALUE as digits, or '-'", "table azazaza a b c d;table q z;");
+        edge("3, TAG: NAME, a blank, its number, then for each COL a blank and its VALUE as digits, or '-'",
+                "table azazaza a b c d;table q z;");
         rows("insert azazaza 0 9 10 99;insert q none;insert azazaza none none none none;");
         tagIs(0, "azazaza 0 0 9 10 99");
         tagIs(1, "q 1 -");
@@ -856,9 +895,11 @@ public final class RowEdgeTest {
             int act = first.draw(6);
             acts[act]++;
             edge("3, DRAWN by the seed " + seed + ": a draw of 6: " + act, "table t a b;table u c;");
-            rows("insert t 0 1;insert t 2 3;insert t 1 none;insert t none 0;insert u 0;insert u 1;insert u 2;insert u 3;insert u 9;");
+            rows("insert t 0 1;insert t 2 3;insert t 1 none;insert t none 0;insert u 0;insert u 1;insert u 2;insert u 3;"
+                    + "insert u 9;");
             List<int[]> due = new ArrayList<>();
-            int[][] put = {{0, 0, 0, 1}, {1, 0, 2, 3}, {2, 0, 1, -1}, {3, 0, -1, 0}, {4, 1, 0, 0}, {5, 1, 1, 0}, {6, 1, 2, 0}, {7, 1, 3, 0}, {8, 1, 9, 0}};
+            int[][] put = {{0, 0, 0, 1}, {1, 0, 2, 3}, {2, 0, 1, -1}, {3, 0, -1, 0}, {4, 1, 0, 0}, {5, 1, 1, 0}, {6, 1, 2,
+                    0}, {7, 1, 3, 0}, {8, 1, 9, 0}};
             due.addAll(List.of(put));
             int made = drawOn(due, new Dice(seed), 9);
             d.is("drawn(1, " + seed + ")", x.drawn(1, seed), 1);
@@ -984,7 +1025,8 @@ public final class RowEdgeTest {
         d.put("insert t 2");
         for (int i = 0; i < 3; i++) {
             int call = i;
-            d.none("a call that throws", () -> call == 0 ? d.x.cell(7, 7) : call == 1 ? d.x.col(7, 7, 7) : d.x.mean(7, 7, 7));
+            d.none("a call that throws", () -> call == 0 ? d.x.cell(7, 7) : call == 1 ? d.x.col(7, 7, 7) : d.x.mean(7, 7,
+                    7));
         }
         d.is("count(4)", x.count(4), 10);
         d.is("statement()", x.statement(), 1);

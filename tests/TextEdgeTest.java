@@ -120,7 +120,8 @@ public final class TextEdgeTest {
         d.badSchema(1, "^7;");
         edge("FAULTS: the end: how many bytes there are");
         for (String begun : new String[] {"table", "table t", "table t a;key", "table t a;key t", "table t a;default t a",
-            "table t a;check t a", "table t a;check t a <", "table t a;need t", "table t a;ref t a", "table t a;ref t a to"}) {
+            "table t a;check t a", "table t a;check t a <", "table t a;need t", "table t a;ref t a", "table t a;"
+                    + "ref t a to"}) {
             d.badSchema(1, begun + "^");
             d.badSchema(1, begun + "  \n ^");
         }
@@ -153,13 +154,14 @@ public final class TextEdgeTest {
     }
 
     static void names() {
-        edge("NAME, COL: none of the WORDS told");
         for (String word : TOLD_WORDS) {
+            edge("NAME, COL: none of the WORDS told: " + word);
             d.badSchema(1, "table ^" + word + " a;");
             d.badSchema(1, "table t ^" + word + ";");
             d.badSchema(1, "table t a;need ^" + word + " a;");
             d.badSchema(1, "table t a;need t ^" + word + ";");
         }
+        edge("NAME, COL: a WORD that is longer than one told");
         d.schema("table tables rows;table ins nones;", 2);
         edge("a NAME is told once");
         d.badSchema(3, "table t a;table ^t b;");
@@ -335,7 +337,8 @@ public final class TextEdgeTest {
         for (char t = 'a'; t < 'e'; t++) {
             all.append("table ").append(t).append(" a b c d;");
             for (char c = 'a'; c < 'e'; c++) {
-                all.append("default ").append(t).append(' ').append(c).append(" 1;need ").append(t).append(' ').append(c).append(';');
+                all.append("default ").append(t).append(' ').append(c).append(" 1;"
+                        + "need ").append(t).append(' ').append(c).append(';');
             }
         }
         d.schema(all.toString(), 36);
