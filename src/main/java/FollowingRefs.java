@@ -297,18 +297,23 @@ public final class FollowingRefs {
 
     private void keepForUndo(State ahead) {
         if (undoable >= undos.length) {
-            State oldest = undos[0];
-            for (int i = 1; i < undos.length; i++) {
-                undos[i - 1] = undos[i];
-            }
-            undos[undos.length - 1] = oldest;
-            undoable = undos.length - 1;
+            forgetOldest();
         }
-        State place = undoable >= 0 ? undos[undoable] : null;
+        State place = undoable >= 0 && undoable < undos.length ? undos[undoable] : null;
         if (place != null) {
             place.copyFrom(ahead);
             undoable++;
         }
+    }
+
+    // The oldest is moved behind the others, to be written over: no State is made by a call.
+    private void forgetOldest() {
+        for (int i = 1; i < undos.length; i++) {
+            State older = undos[i - 1];
+            undos[i - 1] = undos[i];
+            undos[i] = older;
+        }
+        undoable = undos.length - 1;
     }
 
     public int now(int what) {
@@ -949,7 +954,7 @@ public final class FollowingRefs {
         }
 
         void addTable(long word) {
-            if (tables < names.length) {
+            if (tables >= 0 && tables < names.length) {
                 names[tables] = word;
                 put(widths, tables, 0);
                 tables++;
